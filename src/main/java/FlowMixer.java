@@ -45,7 +45,7 @@ public final class FlowMixer {
     private final Nodes nodes;
     private final Flow program;
     private final int[] inputs;
-    private final Division division;
+    private final Analysis analysis;
     private final Machine machine;
     private final Mixer mixer;
     private final Compressor compressor;
@@ -57,7 +57,7 @@ public final class FlowMixer {
         nodes = new Nodes();
         program = new Flow(BLOCKS, BLOCKS);
         inputs = new int[VARIABLES];
-        division = new Division();
+        analysis = new Analysis();
         machine = new Machine();
         mixer = new Mixer();
         compressor = new Compressor();
@@ -147,25 +147,25 @@ public final class FlowMixer {
         if (!isVariableSet(known)) {
             throw new IllegalArgumentException("not 0 to 255");
         }
-        return division.findStatics(nodes, program, known);
+        return analysis.findStatics(nodes, program, known);
     }
 
     public int live(int block) throws NoSuchElementException {
         if (!isBlock(block)) {
             throw new NoSuchElementException("no such block");
         }
-        division.findLives(nodes, program);
-        return division.lives[block];
+        analysis.findLives(nodes, program);
+        return analysis.lives[block];
     }
 
     public int mix(int known) throws IllegalArgumentException {
         if (!isVariableSet(known)) {
             throw new IllegalArgumentException("not 0 to 255");
         }
-        division.findLives(nodes, program);
-        spare.statics = division.findStatics(nodes, program, known);
+        analysis.findLives(nodes, program);
+        spare.statics = analysis.findStatics(nodes, program, known);
         // The spare flow is worked on, so that the residual program stays if nothing comes of it.
-        if (!mixer.work(nodes, program, division.lives, inputs, spare)) {
+        if (!mixer.work(nodes, program, analysis.lives, inputs, spare)) {
             return NONE;
         }
         Flow old = residual;
@@ -464,7 +464,7 @@ public final class FlowMixer {
     }
 
     /** Which variables are static, and which are live. */
-    private static final class Division {
+    private static final class Analysis {
         private final int[] lives = new int[BLOCKS];
 
         private int findStatics(Nodes nodes, Flow program, int known) {

@@ -320,6 +320,19 @@ public final class PromisesTest {
         x.compress();
         x.follow(5000);
         Checks.due("compressed", x.result(0), -32);
+        FlowMixer y = new FlowMixer();
+        int b = variable(y, 'b');
+        y.assign(0, 0, y.node(2, variable(y, 'a'), b));
+        y.assign(0, 1, y.node(2, b, number(y, 1)));
+        y.assign(0, 2, y.node(4, variable(y, 'a'), b));
+        y.jump(0, RETURN, y.node(3, variable(y, 'c'), b), 0, 0);
+        y.input(1, 10);
+        y.mix(2);
+        Checks.due("a static variable changes on the way", Checks.text(y), "0:a=(a+10);c=(a*11);!(c-11);");
+        y.input(0, 5);
+        y.input(1, 1000);
+        Checks.due("two assignments and the jump", y.follow(3), true);
+        Checks.due("by the values that were known", y.result(0), 154);
     }
 
     private static void results() {
@@ -418,6 +431,13 @@ public final class PromisesTest {
         Checks.due("in a node, though what is assigned is not used", dead.live(0), 1);
         dead.jump(0, IF, variable(dead, 'b'), 1, 1);
         Checks.due("assigned ahead of the jump", dead.live(0), 1);
+        dead.assign(0, 2, variable(dead, 'b'));
+        Checks.due("assigned ahead of another assignment", dead.live(0), 1);
+        dead.assign(0, 3, variable(dead, 'c'));
+        dead.assign(1, 4, variable(dead, 'd'));
+        dead.assign(1, 4, variable(dead, 'f'));
+        Checks.due("assigned ahead of the next block", dead.live(0), 33);
+        Checks.due("live in the next block", dead.live(1), 40);
     }
 
     private static void mixing() {
@@ -571,6 +591,16 @@ public final class PromisesTest {
         x.mix(0);
         Checks.due("block 0 stays, though one GO goes to it", x.compress(), 1);
         Checks.due("a GO to itself", Checks.text(x), "0:^0;");
+        x.assign(0, 0, a);
+        x.assign(0, 1, a);
+        x.assign(1, 2, a);
+        x.assign(1, 3, a);
+        x.assign(1, 4, a);
+        x.mix(0);
+        Checks.due("block 0 stays, as it is the first", x.compress(), 1);
+        Checks.due("all assignments in order", Checks.text(x), "0:a=a;b=a;c=a;d=a;e=a;^0;");
+        x.follow(12);
+        Checks.due("steps round and round", x.result(1), 12);
         x.jump(0, IF, a, 1, 1);
         x.jump(1, RETURN, a, 0, 0);
         x.mix(0);
