@@ -30,7 +30,7 @@ final class Checks {
         thrown(what, call, IllegalStateException.class);
     }
 
-    private static void thrown(String what, Call call, Class<?> want) {
+    static void thrown(String what, Call call, Class<?> want) {
         String got = "nothing thrown";
         try {
             call.make();

@@ -693,7 +693,6 @@ public final class PromisesTest {
         int ofNode = 1 + 29 * (3 + 11);
         int jumps = lengthOfChain() - "99".length() + ofNode;
         Checks.due("length of a long text", x.count(2), 99 * 9 * (ofNode + 3) + jumps);
-        Checks.due("sign 2999", x.sign(2999), (int) Checks.text(x).charAt(2999));
         Checks.missing("sign 3000", () -> x.sign(3000));
         Checks.due("compressed", x.compress(), 1);
         Checks.due("assignments of all", x.about(0, 1), 891);
