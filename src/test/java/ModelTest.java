@@ -1,7 +1,13 @@
 import java.util.Arrays;
 import java.util.Random;
 
-/** Long runs of calls by chance, always the same ones: FlowMixer answers what the model answers. */
+/**
+ * Long runs of calls by chance, always the same ones: FlowMixer answers what the model answers.
+ *
+ * Whole texts are read sign by sign, which makes more calls than the document's 512 of an object;
+ * the class does not count its calls, so this tells more than a sample of signs would. The other
+ * tests of boundary cases keep to the 512 (Watched).
+ */
 public final class ModelTest {
     private static final int RUNS = 3000;
     private static final int[] EDGES = {Integer.MIN_VALUE, -1, 0, 1, 7, 8, 15, 16, 150, 255, 256, 5000, 5001, Integer.MAX_VALUE};
